@@ -3,6 +3,7 @@ public final class LimitsTest {
     public static void main(String[] args) {
         oneLine();
         manyPlaces();
+        unlikePlaces();
         onePlace();
         manyActs();
         deepTests();
@@ -67,6 +68,21 @@ public final class LimitsTest {
         x.aim(2, 2, 0, 3, Check.sum(x, 4, 1, 0, 400));
         Check.due("400 places more", x.carried(0) + x.carried(1), 0);
         Check.due("fetched(16, 1)", x.fetched(16, 1), 800);
+    }
+
+    /** 1200 places, no two alike, in rows and places that are alike often: they may not be mixed up. */
+    private static void unlikePlaces() {
+        for (int k = 1; k <= 12; k++) {
+            LoopLoom x = square();
+            x.aim(2, 0, 0, 2, Check.sum(x, 5, k));
+            x.aim(2, 1, 0, Check.sum(x, 4, -k, 0, -1), 3);
+            x.aim(2, 2, 0, 3, Check.sum(x, 4, 1, 0, 20 * k));
+            Check.due("carried(0)", x.carried(0), 0);
+            Check.due("carried(1)", x.carried(1), 0);
+            x.back(0);
+            x.swap(0, 1);
+            Check.due("allowed()", x.allowed(), 1);
+        }
     }
 
     private static void onePlace() {
