@@ -7,19 +7,26 @@ final class Check {
 
     private static int wrong = 0;
     private static int seen = 0;
-    private static int promise = 0;
+    private static int sentences = 0;
+    private static String label = "";
 
     private Check() { }
 
     static void promise(int number) {
-        promise = number;
+        label = "promise " + number;
+    }
+
+    /** What follows is the test of one sentence of the document, up to the next one. */
+    static void sentence(String where, String words) {
+        sentences++;
+        label = where + ", '" + words + "'";
     }
 
     static void due(String call, long got, long want) {
         seen++;
         if (got == want) return;
         wrong++;
-        System.out.println("promise " + promise + ": " + call + " answered " + got + ", due is " + want);
+        System.out.println(label + ": " + call + " answered " + got + ", due is " + want);
     }
 
     /** A call that met a FINDING: the answer, which one it was, and that it was counted once. */
@@ -35,7 +42,8 @@ final class Check {
     }
 
     static void end() {
-        System.out.println(seen + " answers, " + wrong + " not as due");
+        String of = sentences > 0 ? " to " + sentences + " sentences" : "";
+        System.out.println(seen + " answers" + of + ", " + wrong + " not as due");
         if (wrong != 0) System.exit(1);
     }
 
