@@ -371,6 +371,17 @@ public final class EdgeBodyTest {
         Check.due("LETTER 2 is 0 there", x.has(2, 0, 0, 1, 0), 0);
         Check.due("LETTER 3 is 0 there", x.has(2, 0, 0, 0, 1), 0);
         Check.due("far away", x.has(2, Check.MIN, Check.MAX, Check.MIN, Check.MAX), 0);
+        LoopLoom y = new LoopLoom();
+        int[] numbers = {7, -3, 11, 2};
+        int parent = Check.NONE;
+        for (int v : numbers) parent = y.loop(parent, Check.number(y, v), Check.number(y, v), false);
+        y.act(parent, 4, 0);
+        Check.due("four LETTERS", y.has(4, 7, -3, 11, 2), 1);
+        for (int d = 0; d < 4; d++) {
+            int[] p = numbers.clone();
+            p[d] = numbers[(d + 1) % 4];
+            Check.due("LETTER " + d + " as another one", y.has(4, p[0], p[1], p[2], p[3]), 0);
+        }
     }
 
     private static void hasUnlike() {
@@ -460,6 +471,13 @@ public final class EdgeBodyTest {
         x.aim(2, 0, 0, Check.letter(x, 0), 0);
         Check.asked(x, "all above 0: least", x.distance(2, 2, 1, false), 1);
         Check.asked(x, "0 alone: most", x.distance(2, 2, 0, true), 0);
+        LoopLoom y = three();
+        int lone = y.act(y.test(0, Check.letter(y, 0), 2), 4, 0);
+        y.aim(lone, 0, 0, 0, 0);
+        Check.due("one NEED", y.needs(lone, lone, 2), 1);
+        Check.asked(y, "one NEED: least", y.distance(lone, lone, 0, false), 2);
+        Check.asked(y, "one NEED: most", y.distance(lone, lone, 0, true), 2);
+        Check.due("free(0)", y.free(0), 0);
     }
 
     private static void distanceNone() {

@@ -11,6 +11,9 @@ public final class EdgeOrdersTest {
         alike();
         ofEachNeed();
         actsInALoop();
+        actsInOthers();
+        actsInOthersThatAreFull();
+        twelveActs();
         swapRows();
         swapBad();
         leanRows();
@@ -227,6 +230,73 @@ public final class EdgeOrdersTest {
         x.part(0);
         Check.due("parted, in LOOP 1 at whatever depth", x.order(deep, 0, 0), 1000001);
         Check.due("not the one beside", x.order(other, 0, 0), 1000000 + beside);
+    }
+
+    /** LOOP 0 { LOOP 1 { ACT 2 } } LOOP 3 { LOOP 4 { ACT 5 } } ACT 6. */
+    private static LoopLoom twoNests() {
+        LoopLoom x = new LoopLoom();
+        for (int k = 0; k < 2; k++) {
+            int outer = x.loop(Check.NONE, 0, 0, false);
+            x.act(x.loop(outer, 0, 0, false), 4, 0);
+        }
+        x.act(Check.NONE, 4, 0);
+        return x;
+    }
+
+    private static String rowsOf(LoopLoom x, int act) {
+        StringBuilder b = new StringBuilder();
+        int rows = rows(x, act);
+        for (int i = 0; i < rows; i++) b.append(i == 0 ? "" : " | ").append(Check.rowOf(x, act, i));
+        return b.toString();
+    }
+
+    private static void actsInOthers() {
+        Check.sentence("Terms 4", "TURNS .. change ORDERS of ACTS that stand in a LOOP: of no others");
+        Twin.Call[] turns = {x -> x.swap(0, 1), x -> x.lean(0, 1, 2), x -> x.lean(1, 0, 2), x -> x.back(0), x -> x.back(1),
+            x -> x.tile(0, 2, 3), x -> x.tile(1, 1, 3), x -> x.part(0), x -> x.part(1), x -> x.shift(2, 0, 4)};
+        for (int k = 0; k < turns.length; k++) {
+            LoopLoom x = twoNests();
+            String own = rowsOf(x, 2);
+            String other = rowsOf(x, 5);
+            Check.due("TURN " + k, turns[k].on(x), 1);
+            Check.due("TURN " + k + " changes nothing", own.equals(rowsOf(x, 2)) ? 1 : 0, 0);
+            Check.same("TURN " + k + ", of another LOOP", rowsOf(x, 5), other);
+            Check.same("TURN " + k + ", at the top", rowsOf(x, 6), "6 0 0 0 0 1 -9");
+        }
+    }
+
+    /** What is great or full in other LOOPS is no hindrance. */
+    private static void actsInOthersThatAreFull() {
+        Check.sentence("promises 30, 33, 34", "SPENT, FULL: of ACTS in the LOOP alone");
+        LoopLoom x = twoNests();
+        for (int k = 0; k < 13; k++) x.shift(5, 1, 400);
+        Check.due("ACT 5 would be beyond", x.lean(3, 1, 20), Check.SPENT);
+        Check.due("ACT 2 is not", x.lean(0, 1, 20), 1);
+        x.tile(4, 1, 2);
+        Check.due("ACT 5 would be beyond", x.part(4), Check.SPENT);
+        Check.due("ACT 2 is not", x.part(1), 1);
+        for (int k = 0; k < 10; k++) x.tile(3, 1, 2);
+        Check.due("ACT 5 is full", x.tile(3, 1, 2), Check.FULL);
+        Check.due("ACT 2 is not", x.tile(0, 1, 2), 1);
+    }
+
+    /** LOOP 0 { } LOOP 1 { SIDE 2 { 12 ACTS } } LOOP 15 { }: all TURNS reach the last ACT, 14. */
+    private static void twelveActs() {
+        Check.sentence("Terms 2", "3 ACT (12 at most): all of them turn");
+        LoopLoom x = new LoopLoom();
+        x.loop(Check.NONE, 0, 0, false);
+        x.loop(Check.NONE, 0, 0, false);
+        x.loop(1, 0, 0, true);
+        for (int a = 0; a < 12; a++) x.act(2, 4, 0);
+        x.loop(Check.NONE, 0, 0, false);
+        Check.due("no ACT in the first", x.join(0, 1), Check.BAD);
+        Check.due("none in the other", x.join(1, 15), 1);
+        int[] turns = {x.swap(1, 1), x.lean(1, 1, 3), x.back(2), x.tile(1, 2, 3), x.part(2)};
+        for (int answer : turns) Check.due("a TURN", answer, 1);
+        for (int act = 3; act <= 14; act += 11) {
+            Check.same("ACT " + act, rowsOf(x, act), "1 0 0 0 0 1 -9 | 0 3 1 0 0 3 -9 | 0 -1 0 0 0 3 -9 | 0 3 1 0 0 1 0 | "
+                + (200 + act) + " 0 0 0 0 1 -9 | 0 -1 0 0 0 1 1 | " + act + " 0 0 0 0 1 -9");
+        }
     }
 
     private static void swapRows() {
@@ -544,6 +614,15 @@ public final class EdgeOrdersTest {
             Check.due("all stays as it was, of ACT 1, too", x.digest(), before);
             Check.due("count(4)", x.count(4), kept);
         }
+        LoopLoom z = new LoopLoom();
+        z.act(z.loop(Check.NONE, 0, 0, false), 4, 0);
+        int[] numbers = {1, 101, 10101};
+        for (int number : numbers) {
+            Check.due("part(0)", z.part(0), 1);
+            Check.due("PLACE 0 becomes", z.order(1, 0, 0), 1000000 + number);
+        }
+        Check.due("1010101", z.part(0), Check.SPENT);
+        Check.due("it stays", z.order(1, 0, 0), 1010101);
         LoopLoom y = new LoopLoom();
         y.act(y.loop(Check.NONE, 0, 0, false), 4, 0);
         y.act(0, 4, 0);
@@ -641,5 +720,13 @@ public final class EdgeOrdersTest {
         Check.met(x, "the other is a TEST", 3, x.join(0, test), Check.UNLIKE);
         x.act(empty, 4, 0);
         Check.due("an ACT in the first", x.join(empty, last), 1);
+        LoopLoom y = new LoopLoom();
+        y.loop(Check.NONE, 0, 0, false);
+        y.act(Check.NONE, 4, 0);
+        y.act(y.loop(Check.NONE, 0, 0, false), 4, 0);
+        Check.due("an ACT beside the first is not in it", y.join(0, 2), Check.BAD);
+        y.act(0, 4, 0);
+        Check.due("one in it", y.join(0, 2), 1);
+        Check.due("ACT 3", y.order(3, 0, 0), 1000000);
     }
 }

@@ -16,6 +16,7 @@ public final class EdgeRunsTest {
         piecesOfArrays();
         runHowMany();
         endedOfLatest();
+        endedBefore();
         endedAtPoint();
         endedBad();
         fetchedBad();
@@ -341,6 +342,16 @@ public final class EdgeRunsTest {
         Check.due("of no VISIT: ended(1)", y.ended(1), Check.NONE);
     }
 
+    private static void endedBefore() {
+        Check.sentence("promise 41", "Of the latest run(): before any");
+        LoopLoom x = short3();
+        int[] want = {0, Check.NONE, Check.NONE, Check.NONE, Check.NONE, Check.NONE};
+        for (int what = 0; what < 6; what++) Check.due("ended(" + what + ")", x.ended(what), want[what]);
+        LoopLoom y = spent();
+        y.run(false);
+        for (int what = 0; what < 6; what++) Check.due("behind SPENT: ended(" + what + ")", y.ended(what), want[what]);
+    }
+
     private static void endedAtPoint() {
         Check.sentence("promise 41", "2 to 5 the POINT there (as 100000 and more; NONE)");
         LoopLoom x = new LoopLoom();
@@ -559,6 +570,13 @@ public final class EdgeRunsTest {
         y.act(y.loop(Check.NONE, 0, 0, false), 4, 0);
         Check.asked(y, "one alone behind a LINE", y.written(2, 5), 0);
         Check.asked(y, "one alone behind a LINE", y.written(2, 9), 1);
+        LoopLoom z = new LoopLoom();
+        z.act(z.loop(Check.NONE, Check.number(z, 5), Check.number(z, 6), false), 4, 0);
+        z.act(0, 4, 0);
+        for (int i = 0; i < 4; i++) {
+            Check.asked(z, "ACTS by turns: 0s", z.written(i, 5), 0);
+            Check.asked(z, "ACTS by turns: one", z.written(i, 9), 1);
+        }
     }
 
     private static void linesSpent() {

@@ -10,6 +10,7 @@ public final class EdgeSumsTest {
         longs();
         newObject();
         whatASizeWas();
+        whatSizesChange();
         ordersStay();
         whichTerm();
         howMuch();
@@ -167,6 +168,36 @@ public final class EdgeSumsTest {
         Check.due("no turn", x.visits(), 0);
         Check.due("size(0, 0)", x.size(0, 0), -1);
         Check.due("one turn", x.visits(), 1);
+    }
+
+    /** All that is asked of VISITS is asked of those with the new SIZE. */
+    private static void whatSizesChange() {
+        Check.sentence("promise 2", "A SIZE is v");
+        LoopLoom x = new LoopLoom();
+        x.act(x.loop(Check.NONE, 0, Check.sum(x, 1, 1), false), 4, 0);
+        x.array(3, 1);
+        x.row(0, 0, 4);
+        int at = Check.sum(x, 2, 1);
+        x.aim(1, 0, 0, 0, at);
+        int[] sizes = {0, 3, 1, 2};
+        for (int s : sizes) {
+            x.size(0, s);
+            Check.due("needs(1, 1, 2)", x.needs(1, 1, 2), s * (s + 1) / 2);
+            Check.due("carried(0)", x.carried(0), s * (s + 1) / 2);
+            Check.due("free(0)", x.free(0), s == 0 ? 1 : 0);
+            Check.due("points(1)", x.points(1), s + 1);
+            Check.due("has(1, 3, 0, 0, 0)", x.has(1, 3, 0, 0, 0), s >= 3 ? 1 : 0);
+            Check.due("distance(1, 1, 0, true)", x.distance(1, 1, 0, true), s == 0 ? Check.NONE : 1);
+            if (s > 0) Check.due("asked()", x.asked(), s);
+            Check.due("lines()", x.lines(), 1);
+            Check.asked(x, "written(0, 9)", x.written(0, 9), s + 1);
+            Check.due("run(true)", x.run(true), s + 1);
+            Check.due("fetched(1, 1)", x.fetched(1, 1), 1);
+        }
+        x.size(1, 3);
+        Check.due("place 3", x.run(false), 3);
+        x.size(1, 4);
+        Check.met(x, "place 4", 0, x.run(false), Check.BEYOND);
     }
 
     private static void ordersStay() {

@@ -15,14 +15,14 @@ public final class RoomTest {
         LoopLoom x = program();
         long built = made() - before;
         before = made();
-        for (int k = 0; k < 30; k++) ask(x, k);
+        for (int k = 0; k < 15; k++) ask(x, k);
         long asked = made() - before;
         // A long is eight bytes: 100,000 elements in all at most.
         Check.due("bytes that an object takes, " + built + ", are above 400000", built > 400000 ? 1 : 0, 0);
         // Twenty kept ORDERS of some 1350 ints each are all that calls may make.
         Check.due("bytes that calls take, " + asked + ", are above 120000", asked > 120000 ? 1 : 0, 0);
         before = made();
-        for (int k = 0; k < 30; k++) ask(x, k);
+        for (int k = 0; k < 15; k++) ask(x, k);
         long again = made() - before;
         Check.due("bytes that calls take again, " + again + ", are above 1000", again > 1000 ? 1 : 0, 0);
         Check.end();
