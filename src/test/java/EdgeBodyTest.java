@@ -507,11 +507,16 @@ public final class EdgeBodyTest {
         Check.met(x, "UNLIKE ahead of the LETTER", 0, x.distance(0, 3, 3, true), Check.UNLIKE);
         Check.met(x, "UNLIKE ahead of the LETTER", 1, x.distance(3, 2, 3, true), Check.UNLIKE);
         Check.due("no NODE ahead of UNLIKE", x.distance(0, 6, 0, true), Check.BAD);
+        // 4 is no LETTER at all, so it is a number that is none.
+        Check.due("no LETTER ahead of UNLIKE", x.distance(0, 3, 4, true), Check.BAD);
+        Check.due("no LETTER ahead of UNLIKE", x.distance(3, 2, -1, true), Check.BAD);
         LoopLoom y = most();
         y.act(0, 4, 0);
         Check.due("SPENT ahead of UNLIKE", y.distance(0, 1, 0, true), Check.SPENT);
         Check.due("SPENT ahead of that LETTER", y.distance(1, 1, 3, true), Check.SPENT);
         Check.due("no NODE ahead of SPENT", y.distance(1, 4, 0, true), Check.BAD);
+        Check.due("no LETTER ahead of SPENT", y.distance(1, 1, 4, true), Check.BAD);
+        Check.due("no LETTER ahead of SPENT", y.distance(1, 1, -1, true), Check.BAD);
     }
 
     private static void freeLoop() {
